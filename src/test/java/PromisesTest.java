@@ -748,6 +748,20 @@ public final class PromisesTest {
         due(0, x, "best", 7, 0);
         x.rule(3, 46);
         due(1, x, "best", 7, 0);
+        x.rule(3, 999);
+        due(0, x, "best", 7, 0);
+        text(x, 0, "0-m");
+        due(0, x, "best", 7, 0);
+        due(2, x, "best", 7, 1);
+        // what ill() goes through of the same PIECES isn't what best() does
+        row(x, 1, 2, 0, 1);
+        row(x, 2, 2, 1);
+        due(2, x, "ill", 1, 0, 2, 0);
+        due(0, x, "best", 5, 0);
+        due(0, x, "best", 7, 0);
+        due(2, x, "ill", 1, 0, 1, 0);
+        due(NONE, x, "best", 6, 2);
+        due(1, x, "best", 6, 0);
     }
 
     private static void bestOfSeveral() {
@@ -848,6 +862,24 @@ public final class PromisesTest {
         y.must(6, 100, 0);
         due(STATE, y, "bars", 4);
         due(2 + 4, y, "bars", 6);
+        barsOfEveryInterval();
+    }
+
+    private static void barsOfEveryInterval() {
+        EveningOrder x = plainPieces(2);
+        // 0 can't end by minute 0; with THE INTERVAL both others are broken, too, without it neither
+        x.must(1, 1, 0);
+        x.must(7, 1, 0);
+        x.must(7, 100, 0);
+        x.must(2, 1, 0);
+        due(8, x, "bars", 3);
+        EveningOrder y = plainPieces(2);
+        y.must(4, 1, 0);
+        y.must(3, 1, 0);
+        y.must(6, 1, 0);
+        y.must(1, 1, 0);
+        // 0 last: with THE INTERVAL ahead of it or not; 0 first
+        due(3, y, "bars", 3);
     }
 
     private static void fewest() {
@@ -880,6 +912,36 @@ public final class PromisesTest {
         due(KIND, x, "fewest", 0, 20);
         due(KIND, x, "fewest", 2047, 0);
         fewestAcrossImages();
+        fewestOfSeveral();
+    }
+
+    private static void fewestOfSeveral() {
+        EveningOrder x = new EveningOrder();
+        int[] things = {3, 1, 2, 0, 1};
+        for (int t : things) {
+            x.piece(1000, 0, t, 0);
+        }
+        // there and back around 3, 1, 0, 2 as THINGS: either way round, and 1 or 4 first, are as good
+        due(3, x, "fewest", 31, -1);
+        long[] order = {0, 1, 4, 3, 2};
+        for (int i = 0; i < 5; i++) {
+            due(order[i], x, "fewest", 31, i);
+        }
+        // 0, 1, 3, 2 and 0, 2, 3, 1 are as good, and so are others
+        long[] four = {0, 1, 3, 2};
+        for (int i = 0; i < 4; i++) {
+            due(four[i], x, "fewest", 15, i);
+        }
+        EveningOrder y = new EveningOrder();
+        y.piece(1000, 0, 1, 0);
+        y.piece(1000, 0, 0, 0);
+        y.piece(1000, 0, 3, 0);
+        // the first PIECE isn't always first
+        long[] three = {1, 0, 2};
+        due(2, y, "fewest", 7, -1);
+        for (int i = 0; i < 3; i++) {
+            due(three[i], y, "fewest", 7, i);
+        }
     }
 
     private static void fewestAcrossImages() {
@@ -924,6 +986,7 @@ public final class PromisesTest {
         due(STATE, y, "better", 0, 0);
         y.liking(6, 1, 1);
         due(1, y, "better", 0, 0);
+        betterWithMusts();
         // THE INTERVAL stays where it stands
         EveningOrder z = plainPieces(3);
         z.liking(3, 1, 1);
@@ -931,6 +994,20 @@ public final class PromisesTest {
         row(z, 0, 0, 1, 2);
         due(STATE, z, "better", 0, 0);
         due(102, z, "better", 0, 2);
+    }
+
+    private static void betterWithMusts() {
+        EveningOrder x = plainPieces(4);
+        x.liking(3, 1, 1);
+        text(x, 0, "(p=0)*l");
+        row(x, 0, 0, 1, 2, 3);
+        due(3, x, "better", 0, 0);
+        // 3 isn't first, but worth most there: 2 comes next
+        x.must(3, 300, 0);
+        due(2, x, "better", 0, 0);
+        x.must(5, 1, 0);
+        x.must(5, 2, 0);
+        due(STATE, x, "better", 0, 0);
     }
 
     private static void slides() {
@@ -947,6 +1024,10 @@ public final class PromisesTest {
             due(i, x, "get", 0, i);
         }
         due(0, x, "slides", 0, 0, 20);
+        row(x, 0, 0, 1, 2, 4, 3);
+        due(1, x, "slides", 0, 0, 20);
+        due(3, x, "get", 0, 3);
+        due(4, x, "get", 0, 4);
         due(BEYOND, x, "slides", 0, 0, 0);
         due(BEYOND, x, "slides", 0, 0, 21);
         due(BEYOND, x, "slides", 4, 0, 1);
@@ -987,6 +1068,7 @@ public final class PromisesTest {
         due(KIND, x, "ill", 0, 4, 9, 0);
         illOfManyAndFew();
         illWorthMost();
+        illFewestPairs();
     }
 
     private static void illOfManyAndFew() {
@@ -1016,7 +1098,31 @@ public final class PromisesTest {
         due(1, x, "ill", 0, 0, 3, 0);
         text(x, 0, "(0-p)*l*l");
         due(0, x, "ill", 0, 0, 3, 0);
-        // the fewest pairs come ahead of what it is worth
+        text(x, 0, "81-p*l*l");
+        due(0, x, "ill", 0, 0, 3, 0);
+        x.must(5, 1, 0);
+        x.must(0, 201, 0);
+        due(0, x, "ill", 0, 0, 3, 0);
+        illOfThree();
+    }
+
+    private static void illOfThree() {
+        EveningOrder x = plainPieces(4);
+        x.liking(3, 1, 1);
+        row(x, 0, 0, 1, 2, 3);
+        x.must(5, 100, 0);
+        // without 3: 1, 0, 2 alone has one pair moved; the fewest pairs come ahead of what it is worth
+        text(x, 0, "(p=0)*l*9");
+        due(1, x, "ill", 0, 0, 3, -1);
+        due(1, x, "ill", 0, 0, 3, 0);
+        due(0, x, "ill", 0, 0, 3, 1);
+    }
+
+    private static void illFewestPairs() {
+        EveningOrder x = plainPieces(4);
+        x.liking(3, 1, 1);
+        row(x, 0, 0, 1, 2, 3);
+        x.must(0, 100, 0);
         text(x, 0, "(p=0)*l");
         due(1, x, "ill", 0, 0, 3, 0);
         due(1, x, "ill", 0, 0, 3, -1);
@@ -1114,11 +1220,72 @@ public final class PromisesTest {
         text(x, 2, "(p=0)*(l=1)*2");
         due(2, x, "plain", -1);
         due(5, x, "plain", 0);
+        plainOfSeveral();
         x.past(2, 2, 0);
         due(NONE, x, "plain", 0);
         due(0, x, "plain", -1);
         due(BEYOND, x, "plain", 1);
         due(BEYOND, x, "plain", -2);
+    }
+
+    private static void plainOfSeveral() {
+        EveningOrder x = plainPieces(3);
+        for (int i = 0; i < 4; i++) {
+            x.liking(3, 1, 1);
+        }
+        text(x, 0, "(p=1)*l*2-(p=0)*l");
+        text(x, 1, "(p=2)*l*2-(p=1)*l");
+        row(x, 0, 0, 1, 2);
+        row(x, 1, 1, 2, 0);
+        row(x, 2, 2, 1, 0);
+        x.past(0, 1, 0);
+        x.past(0, 2, 0);
+        // by 0: 2 against 3 and 0; by 1: 3 against -2 and -1; 0 and 1 together hold as well
+        due(2, x, "plain", 0);
+        x.past(1, 0, 0);
+        due(NONE, x, "plain", 0);
+        EveningOrder y = plainPieces(2);
+        for (int i = 0; i < 3; i++) {
+            y.liking(3, 1, 1);
+        }
+        row(y, 0, 0, 1);
+        row(y, 1, 1, 0);
+        y.past(0, 1, 1);
+        // two are as plain: the least bits; a plainer one later on is told
+        text(y, 1, "p*l");
+        text(y, 2, "p*l");
+        due(2, y, "plain", 0);
+        due(6, y, "plain", -1);
+        text(y, 0, "0-(p=1)*l");
+        text(y, 1, "p*l");
+        text(y, 2, "p*l*3");
+        due(2, y, "plain", 0);
+        // THE INTERVAL belongs to the PAST: j is 1 at place 1 by it alone
+        text(y, 1, "p*l*(j=0)");
+        text(y, 2, "p*l*j");
+        due(4, y, "plain", 0);
+        plainestIsLate();
+    }
+
+    private static void plainestIsLate() {
+        EveningOrder x = plainPieces(3);
+        for (int i = 0; i < 3; i++) {
+            x.liking(3, 1, 1);
+        }
+        row(x, 0, 0, 1, 2);
+        row(x, 1, 1, 0, 2);
+        row(x, 2, 0, 2, 1);
+        x.past(0, 1, 0);
+        x.past(0, 2, 0);
+        text(x, 0, "(p=1)*(l=1)");
+        due(1, x, "plain", 0);
+        // 0 tells the first PAST alone, 1 the second, 2 both
+        text(x, 0, "(p=0)*(l=0)");
+        text(x, 1, "(p=2)*(l=2)");
+        text(x, 2, "(p=1)*(l=1)");
+        due(4, x, "plain", 0);
+        text(x, 2, "0");
+        due(3, x, "plain", 0);
     }
 
     // ---- promises 27 to 38
@@ -1353,6 +1520,46 @@ public final class PromisesTest {
         x.piece(1000, 0, 0, 0);
         due(4, x, "restore");
         due(3, x, "image");
+        whatIsRestored();
+    }
+
+    private static void whatIsRestored() {
+        EveningOrder x = plainPieces(2);
+        x.liking(3, 1, 1);
+        tape(x, "l*5");
+        x.tell(0);
+        x.tell(1);
+        x.image();
+        x.liking(3, 1, 1);
+        text(x, 1, "+");
+        text(x, 1, "7*p");
+        tape(x, "ppp");
+        x.check(0);
+        x.tell(5);
+        x.tell(5);
+        x.tell(5);
+        x.restore();
+        // what waits, and THE TAPE, are those of the IMAGE
+        due(2, x, "count", 6);
+        due(0, x, "check", 3);
+        due(1, x, "text", 0);
+        row(x, 0, 0, 1);
+        due(5, x, "worthBy", 0, 0, 0);
+        // a new LIKING where another one was has no TEXT
+        due(1, x, "liking", 3, 1, 1);
+        due(0, x, "worthBy", 0, 0, 1);
+        // and is of its own KIND, PIECES and MUSTS likewise
+        x.restore();
+        due(1, x, "liking", 4, 3, 2);
+        due(302, x, "as", 1, 4);
+        x.piece(3000, 1, 0, 9);
+        due(3, x, "pieceIs", 2, 0);
+        x.must(4, 1, 0);
+        x.restore();
+        x.piece(4000, 1, 0, 9);
+        x.must(3, 1, 0);
+        due(4, x, "pieceIs", 2, 0);
+        due(1, x, "judge", 0, 0, 3);
     }
 
     private static void tell() {
