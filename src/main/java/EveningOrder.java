@@ -648,6 +648,11 @@ public final class EveningOrder {
         return (set >> i & 1) != 0;
     }
 
+    private static int wayRound(int key, int other) {
+        int up = key < other ? other - key : key - other;
+        return up <= 6 ? up : 12 - up;
+    }
+
     /** A number of LINE's parts, told in least terms. */
     private static long partOf(long parts, int part) {
         long a = LINE;
@@ -680,11 +685,6 @@ public final class EveningOrder {
 
         int carriedTo(Piece other) {
             return Integer.bitCount(things ^ other.things);
-        }
-
-        int wayRoundTo(Piece other) {
-            int up = Math.abs(key - other.key);
-            return Math.min(up, 12 - up);
         }
     }
 
@@ -1224,32 +1224,43 @@ public final class EveningOrder {
             }
             int from = place * MOST_LIKINGS;
             for (int i = 0; i < book.likingCount; i++) {
-                if (!isIn(weighed, i)) {
-                    continue;
+                if (isIn(weighed, i)) {
+                    sums[from + MOST_LIKINGS + i] = sums[from + i] + worthAt(book.likings[i], place);
                 }
-                Liking liking = book.likings[i];
-                int worth = 0;
-                if (counts(liking.kind, place)) {
-                    boolean isNumber = liking.kind == SINCE || liking.kind == TIRED;
-                    int withoutText = isNumber ? named[0] : 0;
-                    worth = liking.hasText() ? liking.comesTo(named, heap) : withoutText;
-                    worth -= liking.kind == STAGE ? named[3] : 0;
-                }
-                sums[from + MOST_LIKINGS + i] = sums[from + i] + worth;
             }
         }
 
-        /** Whether a KIND has something to weigh at a place; its NAMES have their numbers then. */
-        private boolean counts(int kind, int place) {
-            switch (kind) {
+        private int worthAt(Liking liking, int place) {
+            boolean counts;
+            int withoutText = 0;
+            switch (liking.kind) {
                 case NEXT:
-                case STAGE: return namesPair(place);
-                case SINCE: return namesSince(place);
-                case PLACE: return namesPlace(place);
-                case TIRED: return namesTired(place);
-                default: return false;
+                case STAGE:
+                    counts = namesPair(place);
+                    break;
+                case SINCE:
+                    counts = namesSince(place);
+                    withoutText = named[0];
+                    break;
+                case PLACE:
+                    counts = namesPlace(place);
+                    break;
+                case TIRED:
+                    counts = namesTired(place);
+                    withoutText = named[0];
+                    break;
+                default:
+                    counts = false;
+                    break;
             }
+            if (!counts) {
+                return 0;
+            }
+            int worth = liking.hasText() ? liking.comesTo(named, heap) : withoutText;
+            return liking.kind == STAGE ? worth - named[3] : worth;
         }
+
+        // What names..() answers: whether there is something to weigh at the place; NAMES have their numbers then.
 
         private boolean namesPair(int place) {
             if (place == 0 || place == interval) {
@@ -1259,8 +1270,8 @@ public final class EveningOrder {
             Piece second = book.pieces[row[place]];
             named[0] = first.loud;
             named[1] = second.loud;
-            named[2] = first.wayRoundTo(second);
-            named[3] = first.carriedTo(second);
+            named[2] = wayRound(first.key, second.key);
+            named[3] = carried[place + 1] - carried[place];
             return true;
         }
 
@@ -1335,7 +1346,8 @@ public final class EveningOrder {
         int leastMoved;
         final Row found = new Row();
         private final int[] placesBefore = new int[MOST_PIECES];
-        private boolean[] breakings = null;
+        /** Made when first needed, then used again. */
+        private boolean[] usedBreakings = null;
 
         Search(Book book, Walk walk) {
             this.book = book;
@@ -1426,18 +1438,13 @@ public final class EveningOrder {
 
         /** BARS of the set that find() has gone through, without any GOOD ROW. */
         int barring() {
-            int all = (1 << book.mustCount) - 1;
-            if (breakings == null) {
-                breakings = new boolean[1 << MOST_MUSTS];
-            }
-            for (int i = 0; i < breakings.length; i++) {
-                breakings[i] = false;
-            }
+            boolean[] breakings = breakingsBegun();
             for (int interval = 0; interval < size; interval++) {
                 walk.start(size, interval, 0);
-                goOnAny(0);
+                goOnAny(0, breakings);
             }
-            spreadBreakings();
+            spread(breakings);
+            int all = (1 << book.mustCount) - 1;
             int fewest = all;
             for (int bars = 0; bars <= all; bars++) {
                 // a ROW of which no MUST of these is broken breaks others only
@@ -1448,7 +1455,18 @@ public final class EveningOrder {
             return fewest;
         }
 
-        private void goOnAny(int place) {
+        private boolean[] breakingsBegun() {
+            if (usedBreakings == null) {
+                usedBreakings = new boolean[1 << MOST_MUSTS];
+            }
+            for (int i = 0; i < usedBreakings.length; i++) {
+                usedBreakings[i] = false;
+            }
+            return usedBreakings;
+        }
+
+        /** Marks which sets of MUSTS are broken, each by some ROW in which nobody is TOO TIRED. */
+        private void goOnAny(int place, boolean[] breakings) {
             if (place >= size) {
                 int broken = walk.broken[size];
                 if (within(broken, 0, breakings.length - 1)) {
@@ -1463,13 +1481,13 @@ public final class EveningOrder {
                 }
                 walk.step(place, number);
                 if (walk.isNoneTooTired(place + 1)) {
-                    goOnAny(place + 1);
+                    goOnAny(place + 1, breakings);
                 }
             }
         }
 
         /** From sets of MUSTS that a ROW breaks just so to sets that have all that some ROW breaks. */
-        private void spreadBreakings() {
+        private void spread(boolean[] breakings) {
             for (int i = 0; i < book.mustCount; i++) {
                 for (int musts = 0; musts < breakings.length; musts++) {
                     if (isIn(musts, i) && breakings[musts & ~(1 << i)]) {
@@ -1571,8 +1589,8 @@ public final class EveningOrder {
         int fewestCarried;
         final int[] order = new int[MOST_PIECES];
         private final int[] members = new int[MOST_PIECES];
-        /** By a set of members, then one of them: the least CARRIED of the set with that one first. */
-        private byte[] least = null;
+        /** Made when first needed, then used again. */
+        private byte[] usedLeast = null;
 
         Sets(Book book) {
             this.book = book;
@@ -1590,23 +1608,29 @@ public final class EveningOrder {
                     size++;
                 }
             }
-            if (least == null) {
-                least = new byte[(1 << MOST_ORDERED) * MOST_ORDERED];
+            if (usedLeast == null) {
+                usedLeast = new byte[(1 << MOST_ORDERED) * MOST_ORDERED];
             }
-            for (int some = 1; some < 1 << size; some++) {
-                for (int first = 0; first < size; first++) {
-                    if (isIn(some, first)) {
-                        int next = nextOf(some, first);
-                        least[some * MOST_ORDERED + first] = (byte) (next < 0 ? 0 : leastBy(some, first, next));
-                    }
-                }
-            }
-            readOrder();
+            fillLeast(usedLeast);
+            readOrder(usedLeast);
             known = true;
         }
 
+        /** By a set of members, then one of them: the least CARRIED of the set with that one first. */
+        private void fillLeast(byte[] least) {
+            for (int some = 1; some < 1 << size; some++) {
+                for (int first = 0; first < size; first++) {
+                    if (isIn(some, first)) {
+                        int next = nextOf(least, some, first);
+                        int carried = next < 0 ? 0 : leastBy(least, some, first, next);
+                        least[some * MOST_ORDERED + first] = (byte) carried;
+                    }
+                }
+            }
+        }
+
         /** Which member comes behind the first one of some, so that least is CARRIED; -1 if it stands alone. */
-        private int nextOf(int some, int first) {
+        private int nextOf(byte[] least, int some, int first) {
             int rest = some & ~(1 << first);
             int best = -1;
             int bestCarried = 0;
@@ -1614,7 +1638,7 @@ public final class EveningOrder {
                 if (!isIn(rest, i)) {
                     continue;
                 }
-                int carried = leastBy(some, first, i);
+                int carried = leastBy(least, some, first, i);
                 if (best < 0 || carried < bestCarried) {
                     best = i;
                     bestCarried = carried;
@@ -1623,13 +1647,13 @@ public final class EveningOrder {
             return best;
         }
 
-        private int leastBy(int some, int first, int next) {
+        private int leastBy(byte[] least, int some, int first, int next) {
             int rest = some & ~(1 << first);
             int carried = book.pieces[members[first]].carriedTo(book.pieces[members[next]]);
             return carried + least[rest * MOST_ORDERED + next];
         }
 
-        private void readOrder() {
+        private void readOrder(byte[] least) {
             int some = (1 << size) - 1;
             int first = 0;
             for (int i = 1; i < size; i++) {
@@ -1640,7 +1664,7 @@ public final class EveningOrder {
             fewestCarried = least[some * MOST_ORDERED + first];
             for (int place = 0; place < size && first >= 0; place++) {
                 order[place] = members[first];
-                int next = nextOf(some, first);
+                int next = nextOf(least, some, first);
                 some &= ~(1 << first);
                 first = next;
             }

@@ -102,7 +102,7 @@ public final class LanguageTest {
 
     private static void words(String code) {
         String[] never = {"throw", "throws", "try", "catch", "finally", "synchronized", "assert", "import", "package",
-            "double", "float", "while", "goto", "Object", "hashCode", "toString", "Exact", "Thread", "Random", "native"};
+            "double", "float", "while", "Object", "hashCode", "toString", "Thread", "Random", "native"};
         for (String word : never) {
             need(!Pattern.compile("\\b" + word + "\\b").matcher(code).find(), "a word that isn't due: " + word);
         }

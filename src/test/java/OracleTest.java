@@ -20,7 +20,7 @@ public final class OracleTest {
     }
 
     public static void main(String[] args) {
-        int runs = args.length > 0 ? Integer.parseInt(args[0]) : 160;
+        int runs = args.length > 0 ? Integer.parseInt(args[0]) : 400;
         int first = args.length > 1 ? Integer.parseInt(args[1]) : 1;
         for (int run = first; run < first + runs; run++) {
             OracleTest test = new OracleTest(run);

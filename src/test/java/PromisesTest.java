@@ -84,7 +84,7 @@ public final class PromisesTest {
 
     // ---- evenings to begin with
 
-    /** 10, 5 and 20 minutes; KEYS 0, 7, 0; LOUD 1, 4, 2; PLAYERS 0, both, 1; THINGS 0, 0 and 1, 2; EFFORT 10, 20, 30. */
+    /** 10, 5, 20 minutes; KEYS 0, 7, 0; LOUD 1, 4, 2; PLAYERS 0, both, 1; THINGS 0, 0 and 1, 2; EFFORT 10, 20, 30. */
     private static EveningOrder three() {
         EveningOrder x = new EveningOrder();
         x.piece(10001, 1, 1, 10);
@@ -529,6 +529,12 @@ public final class PromisesTest {
         EveningOrder many = plainPieces(12);
         row(many, 0, 11, 10, 9, 8, 7, 6, 5, 4, 3, 2, 1, 0);
         due(12, many, "judge", 0, 0, 0);
+        for (int i = 0; i < 10; i++) {
+            many.liking(3, 1, 1);
+            text(many, i, "1");
+        }
+        due(12, many, "worthBy", 0, 5, 9);
+        due(120, many, "worth", 0, 5, 0);
         due(32, many, "judge", 0, 11, 0);
         due(KIND, many, "judge", 0, 12, 0);
     }
