@@ -561,7 +561,10 @@ public final class EveningOrder {
         return !within(sheet, 0, SHEETS - 1);
     }
 
-    /** 0 if the SHEET tells a ROW (it stands in the field row then), else which ERROR; the others asked are within. */
+    /**
+     * 0 if the SHEET tells a ROW (it stands in the field row then), else which ERROR; othersWithin: whether the
+     * call's other numbers are within their bounds, which is asked together with the SHEET's.
+     */
     private int rowFault(int sheet, int interval, boolean othersWithin) {
         if (isNoSheet(sheet) || !othersWithin) {
             return BEYOND;
