@@ -1,17 +1,5 @@
 /** Promise by promise: ordinary inputs, the edges that the document names, wrong inputs. */
-public final class PromisesTest {
-    private static final long BEYOND = -1000001;
-    private static final long NONE = -1000002;
-    private static final long STATE = -1000003;
-    private static final long FULL = -1000004;
-    private static final long KIND = -1000005;
-    private static final long PARTED = -1000006;
-    private static final int MIN = Integer.MIN_VALUE;
-    private static final int MAX = Integer.MAX_VALUE;
-
-    private static int checked = 0;
-    private static int wrong = 0;
-
+public final class PromisesTest extends Checks {
     public static void main(String[] args) {
         aNewObject();
         piece();
@@ -59,79 +47,7 @@ public final class PromisesTest {
         count();
         told();
         errorsChangeNothing();
-        System.out.println(checked + " answers of the promises, " + wrong + " wrong");
-        if (wrong != 0) {
-            System.exit(1);
-        }
-    }
-
-    private static void due(String what, long got, long want) {
-        checked++;
-        if (got != want) {
-            wrong++;
-            System.out.println(what + " answered " + got + ", due is " + want);
-        }
-    }
-
-    /** A call by its name. */
-    private static void due(long want, EveningOrder x, String name, long... a) {
-        StringBuilder what = new StringBuilder(name).append('(');
-        for (int i = 0; i < a.length; i++) {
-            what.append(i == 0 ? "" : ", ").append(a[i]);
-        }
-        due(what.append(')').toString(), Calls.call(x, name, a), want);
-    }
-
-    // ---- evenings to begin with
-
-    /** 10, 5, 20 minutes; KEYS 0, 7, 0; LOUD 1, 4, 2; PLAYERS 0, both, 1; THINGS 0, 0 and 1, 2; EFFORT 10, 20, 30. */
-    private static EveningOrder three() {
-        EveningOrder x = new EveningOrder();
-        x.piece(10001, 1, 1, 10);
-        x.piece(5074, 3, 3, 20);
-        x.piece(20002, 2, 4, 30);
-        row(x, 0, 0, 1, 2);
-        return x;
-    }
-
-    /** So many PIECES of one minute, LOUD by their number, without PLAYERS and THINGS. */
-    private static EveningOrder plainPieces(int n) {
-        EveningOrder x = new EveningOrder();
-        for (int i = 0; i < n; i++) {
-            x.piece(1000 + i % 10, 0, 0, 0);
-        }
-        return x;
-    }
-
-    private static void row(EveningOrder x, int sheet, int... pieces) {
-        x.sheet(sheet, 8, pieces.length);
-        for (int i = 0; i < pieces.length; i++) {
-            x.put(sheet, i, pieces[i]);
-        }
-    }
-
-    private static void tape(EveningOrder x, String text) {
-        for (int i = 0; i < text.length(); i++) {
-            x.feed(text.charAt(i), 1);
-        }
-    }
-
-    private static int text(EveningOrder x, int liking, String text) {
-        tape(x, text);
-        return x.text(liking);
-    }
-
-    /** What a TEXT of NEXT comes to between LOUD 7 and LOUD 3, 5 KEYS apart, with 2 CARRIED. */
-    private static int comesTo(String text) {
-        EveningOrder x = new EveningOrder();
-        x.piece(1017, 0, 1, 0);
-        x.piece(1083, 0, 2, 0);
-        x.liking(1, 1, 1);
-        row(x, 0, 0, 1);
-        if (text(x, 0, text) < 0) {
-            return MIN;
-        }
-        return x.worthBy(0, 0, 0);
+        finish("the promises");
     }
 
     // ---- promises 1 to 10
