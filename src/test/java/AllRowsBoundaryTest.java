@@ -1052,6 +1052,12 @@ public final class AllRowsBoundaryTest extends Checks {
         due(1, evenings(1009, 1002, 1003), "two", 999);
     }
 
+    static void promise24_whicheverEveningIsLouder() {
+        due(1, evenings(1001, 1002), "two", 999);
+        due(1, evenings(1002, 1001), "two", 999);
+        due(5, evenings(1002, 1002, 1001, 1001), "two", 999);
+    }
+
     static void promise24_lessApartButTooLong() {
         // 1 against 0 and 2 differ by 0, 0 and 1 against 2 by 8
         due(0b010, evenings(30004, 10009, 30005), "two", 60);
